@@ -501,18 +501,17 @@ public final class NeverSeen {
                 unseen++;
             }
         }
-        int both = commonDivisor(unseen, n);
-        return both == 0 ? NO : (part == 0 ? unseen : n) / both;
+        return inLowestTerms(unseen, n, part);
     }
 
-    /** The greatest number that divides both, of a from 0 on and b from 1 to SEEDS. */
-    private static int commonDivisor(int a, int b) {
-        for (int d = b; d > 1; d--) {
-            if (a % d == 0 && b % d == 0) {
-                return d;
+    /** What stands above (part 0) or below (1) the line; below is so small that each divisor can be tried. */
+    private static int inLowestTerms(int above, int below, int part) {
+        for (int d = below; d > 1; d--) {
+            if (above % d == 0 && below % d == 0) {
+                return (part == 0 ? above : below) / d;
             }
         }
-        return 1;
+        return part == 0 ? above : below;
     }
 
     public int image() {

@@ -100,7 +100,7 @@ public final class TextTest {
             {"steps 1!>2"}, {"steps 1!/2"}, {"steps 1!\t;"}, {"steps 1!\r;"}, {"steps not !;"}, {"steps 1 and !;"},
             {"steps minute !room;"}, {"steps minute!1;"}, {"steps 1!maids;"}, {"steps (1 or 2)!(3)"}, {"steps 1;does 1;costs !costs"},
             {"steps 1;does 1;costs 1!\u00e9;"}, {"steps 1 ;does 1; \n !"}, {"!; steps"}, {"steps 1;does 1;!does 1"},
-            {"steps 1!!does"}, {"steps (1) !not"}, {"steps 1 <!;"}, {"steps 1 = !"}, {"steps 9999!_;"},
+            {"steps 1!does"}, {"steps !minutez"}, {"steps !zroom"}, {"steps !aroom"}, {"steps !rooms"}, {"steps !roo"}, {"steps (1) !not"}, {"steps 1 <!;"}, {"steps 1 = !"}, {"steps 9999!_;"},
         };
         for (String[] one : told) {
             int place = one[0].indexOf('!');
