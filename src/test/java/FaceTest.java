@@ -34,6 +34,8 @@ public final class FaceTest {
         namesOfPrivateMethods();
         statics();
         words();
+        headings();
+        faceOfTheDocument();
         due.end();
     }
 
@@ -112,5 +114,40 @@ public final class FaceTest {
         for (String word : FORBIDDEN) {
             due.is("the program has " + word, Pattern.compile(word).matcher(code).find() ? 1 : 0, 0);
         }
+    }
+
+    /** "Ahead of the calls .. the interface says: ---- ..": ahead of the first of them, behind the last of those ahead. */
+    private static void headings() throws Exception {
+        String[][] told = {
+            {"public NeverSeen(", "---- the house, maids", "public int set("}, {"public int way(", "---- texts", "public int feed("},
+            {"public int force(", "---- the master", "public int master("}, {"public int never(", "---- mornings", "public int morning("},
+            {"public int morning(", "---- what would be best", "public int best("},
+            {"public int stairs(", "---- mornings that were told", "public int from("}, {"public int count(", "---- the host", "public int sheet("},
+        };
+        String text = Files.readString(Path.of("src/main/java/NeverSeen.java"));
+        for (String[] one : told) {
+            int at = text.indexOf("// " + one[1] + "\n");
+            due.is(one[1], text.indexOf(one[0]) >= 0 && text.indexOf(one[0]) < at && at < text.indexOf(one[2]) ? 1 : 0, 1);
+        }
+    }
+
+    /** Each row of 'The public face' stands in the program as it stands there, in the same order. */
+    private static void faceOfTheDocument() throws Exception {
+        String text = Files.readString(Path.of("src/main/java/NeverSeen.java"));
+        int at = 0;
+        int rows = 0;
+        boolean inside = false;
+        for (String line : Files.readAllLines(Path.of("../shared/DOC.md"))) {
+            if (line.startsWith("```")) {
+                inside = line.equals("```java");
+            } else if (inside && line.contains("public")) {
+                String row = line.trim().replace(");", ")");
+                at = text.indexOf(row, at);
+                due.is("the program has: " + row, at >= 0 ? 1 : 0, 1);
+                at = Math.max(at, 0);
+                rows++;
+            }
+        }
+        due.is("rows of the face", rows, FACE.length + 4);
     }
 }
